@@ -628,6 +628,8 @@ public final class HeadsMeet {
         private final int[] done = new int[SORTS];
         // All numbers from top on are free, and what stands in the rows there means nothing.
         private int top;
+        // No number below this one is free, so none is looked at again and again.
+        private int taken;
         private int nodes;
         private int rings;
         private int listed;
@@ -657,6 +659,7 @@ public final class HeadsMeet {
             Arrays.fill(ends, NONE);
             Arrays.fill(done, 0);
             top = 0;
+            taken = 0;
             nodes = 0;
             rings = 0;
         }
@@ -666,6 +669,7 @@ public final class HeadsMeet {
             System.arraycopy(other.kinds, 0, kinds, 0, top);
             System.arraycopy(other.ends, 0, ends, 0, FIRST_PORT + 3 * top);
             System.arraycopy(other.done, 0, done, 0, SORTS);
+            taken = other.taken;
             nodes = other.nodes;
             rings = other.rings;
         }
@@ -747,15 +751,20 @@ public final class HeadsMeet {
             return kindOf(node) == FREE ? NONE : headAt(across(port(node, HEAD)));
         }
 
+        /** Calls no other method for each NODE, as an ENDING does this most of all. */
         int listMeetings() {
-            listed = 0;
-            for (int node = 0; node < top; node++) {
-                if (partnerOf(node) > node && listed < firsts.length) {
-                    firsts[listed] = node;
-                    listed++;
+            int many = 0;
+            int head = FIRST_PORT;
+            for (int node = 0; node < top && node < kinds.length && head < ends.length; node++) {
+                boolean first = kinds[node] != FREE && ends[head] > head && (ends[head] - head) % 3 == 0;
+                if (first && many < firsts.length) {
+                    firsts[many] = node;
+                    many++;
                 }
+                head += 3;
             }
-            return listed;
+            listed = many;
+            return many;
         }
 
         int listedAt(int index) {
@@ -764,14 +773,15 @@ public final class HeadsMeet {
 
         /** A new NODE of the least free number; what is at its places is still to be said. */
         int addNode(int kind) {
-            int node = 0;
+            int node = taken;
             while (node < top && kindOf(node) != FREE) {
                 node++;
             }
-            if (node >= kinds.length) {
+            if (node < 0 || node >= kinds.length) {
                 return NONE;
             }
-            top = Math.max(top, node + 1);
+            taken = node + 1;
+            top = Math.max(top, taken);
             kinds[node] = kind;
             nodes++;
             return node;
@@ -780,6 +790,7 @@ public final class HeadsMeet {
         private void remove(int node) {
             if (kindOf(node) != FREE) {
                 setKind(node, FREE);
+                taken = Math.min(taken, node);
                 nodes--;
             }
         }
