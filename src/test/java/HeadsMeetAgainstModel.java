@@ -13,7 +13,8 @@ import java.util.TreeMap;
  */
 public final class HeadsMeetAgainstModel {
     private static final int RUNS = 2000;
-    private static final int MOST_CALLS = 512;
+    // Below 512, as some calls are followed by one or two more.
+    private static final int MOST_CALLS = 500;
     private static final int SHOWN = 20;
     private static int wrong = 0;
 

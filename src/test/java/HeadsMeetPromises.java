@@ -62,10 +62,10 @@ public final class HeadsMeetPromises {
         }
     }
 
-    /** What count() tells from 8 on is let out: it is not the NET. */
+    /** The NET of an object with few NODES: it has 512 calls only. */
     private static String shape(HeadsMeet x) {
         StringBuilder text = new StringBuilder();
-        for (int i = 0; i < 60; i++) {
+        for (int i = 0; i < 12; i++) {
             for (int what = 0; what < 5; what++) {
                 text.append(x.node(i, what)).append(' ');
             }
