@@ -1,7 +1,7 @@
 /** The boundary cases that promises 23 to 26 name: what is told of all. */
 public final class EdgesOfAll extends Edges {
     public static void main(String[] args) {
-        runAll(EdgesOfAll.class);
+        runAll(EdgesOfAll.class, promises(23, 26));
     }
 
     private static Tried replaced(String text) {

@@ -6,7 +6,7 @@ public final class EdgesOfMeetings extends Edges {
     private static final int[] WRONG_WIRES = {LEAST, -1, 8, 9, 16, 97, 900, MOST};
 
     public static void main(String[] args) {
-        runAll(EdgesOfMeetings.class);
+        runAll(EdgesOfMeetings.class, promises(9, 15));
     }
 
     /**

@@ -3,7 +3,7 @@ public final class EdgesOfNets extends Edges {
     private static final int[] WRONG_NODES = {LEAST, -60, -1, 60, 61, 180, 300, 900, MOST};
 
     public static void main(String[] args) {
-        runAll(EdgesOfNets.class);
+        runAll(EdgesOfNets.class, promises(1, 8));
     }
 
     // ---- promise 1: a new object
@@ -156,6 +156,11 @@ public final class EdgesOfNets extends Edges {
             due("a NODE that was", full.node(node, 0), UNKNOWN);
         }
         due("an OPEN WIRE that was", full.open(1), UNKNOWN);
+        Tried tried = Tried.of("(ab)=[cd],*=*,*=(ef)");
+        tried.ending(0);
+        tried.runs(60, 0, 0);
+        tried.type("a=b").net();
+        dueCounts(tried, 0, 0, 0, 0, 0, 2, 0, 0, 0, 0, 0, 0, 0, 0, 2);
         Tried seen = Tried.of("(ab)=[cd]");
         seen.see(0, 0, 5);
         seen.type("(ab)=[cd]").net();
@@ -202,6 +207,17 @@ public final class EdgesOfNets extends Edges {
         dueNode(x, 3, 3, 903, 902, 12, NONE);
         dueNode(x, 4, 0, 11, NONE, NONE, NONE);
         dueNode(x, 5, 1, 16, 15, 905, NONE);
+        // ENDS that have the number of a BRACKET that was.
+        Tried vanished = Tried.of("(ab)=(cd)");
+        vanished.meet(0);
+        due("stop(0)", vanished.stop(0), 0);
+        dueNode(vanished, 0, 0, 903, NONE, NONE, NONE);
+        Tried restored = Tried.of("(ab)=[cd],e=f");
+        restored.image();
+        restored.meet(0);
+        restored.restore();
+        due("stop(4)", restored.stop(4), 2);
+        dueNode(restored, 2, 0, 905, NONE, NONE, NONE);
     }
 
     @Says("4 the NODE that it MEETS (NONE)")

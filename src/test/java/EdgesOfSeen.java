@@ -3,7 +3,7 @@ public final class EdgesOfSeen extends Edges {
     private static final int[] WRONG_NODES = {LEAST, -1, 60, 61, 180, MOST};
 
     public static void main(String[] args) {
-        runAll(EdgesOfSeen.class);
+        runAll(EdgesOfSeen.class, promises(20, 22));
     }
 
     // ---- promise 20: see

@@ -1,7 +1,7 @@
 /** The boundary cases that 'What it is' and 'Terms' name. What is due was found by hand from the document. */
 public final class EdgesOfTerms extends Edges {
     public static void main(String[] args) {
-        runAll(EdgesOfTerms.class);
+        runAll(EdgesOfTerms.class, WHAT_IT_IS, TERMS);
     }
 
     @Says("An object is used for at most 512 calls after it has been made")
@@ -712,6 +712,11 @@ public final class EdgesOfTerms extends Edges {
         due("from 2, above it", x.runs(1, 2, 2), 59559187);
         due("from the last one", x.runs(1, MOST, 2), 1043980748);
         due("twice from 0", x.runs(2, 0, 2), 1406932606);
+        // These have the next SEEDS 65535, 65536, the last below 32767 times that, and just so many.
+        int[] seeds = {2032319262, 1742513795, 576240414, 286434947};
+        for (int i = 0; i < seeds.length; i++) {
+            due("rounded down: " + seeds[i], Tried.of("*=*,(ab)=[cd]").runs(1, seeds[i], 1), i % 2 == 0 ? 4 : 6);
+        }
         Tried many = Tried.of("(ab)=[ac]");
         long seed = MOST;
         for (int i = 0; i < 60; i++) {
@@ -739,11 +744,29 @@ public final class EdgesOfTerms extends Edges {
         x.change(firstBracket(x), 3);
         due("restore()", x.restore(), 1);
         dueAlike("restored", x, same);
+        dueSeenRestored(0, 1, 1, 0, 1, 0);
+        dueSeenRestored(0, 1, 1, 0, 2, 1);
+        dueSeenRestored(0, 1, 1, 1, 1, 1);
         Tried page = Tried.of("a=b");
         page.image();
         page.letter('a');
         page.restore();
         due("THE PAGE stays", page.count(13), 1);
+    }
+
+    /** What was SEEN first is kept; it is forgotten then, and something else SEEN. */
+    private static void dueSeenRestored(int node, int what, int much, int otherNode, int otherWhat, int otherMuch) {
+        Tried x = Tried.of("(ab)=[cd]");
+        x.see(node, what, much);
+        int kinds = x.node(0, 5);
+        int others = x.node(1, 5);
+        x.image();
+        x.forget();
+        x.see(otherNode, otherWhat, otherMuch);
+        due("KINDS change", kinds == x.node(0, 5) && others == x.node(1, 5) ? 1 : 0, 0);
+        x.restore();
+        due("KINDS restored", x.node(0, 5), kinds);
+        due("KINDS of the other one restored", x.node(1, 5), others);
     }
 
     private static int firstBracket(Tried x) {

@@ -20,12 +20,14 @@ import java.util.regex.Pattern;
 /**
  * What the tests of boundary cases share. Each test is a method without arguments, named after the
  * part of the document (promise07, terms) and the sentence; it quotes that sentence, and the quote
- * must stand in that part. A part that was begun must be quoted wherever it names a refusal.
+ * must stand in that part. A part that was begun must be quoted wherever it names a refusal or a limit.
  */
 abstract class Edges {
     static final int NONE = -1, UNKNOWN = -101, OUTSIDE = -102, STATE = -103, FULL = -104;
     static final int NO_ENDING = -2;
     static final int LEAST = Integer.MIN_VALUE, MOST = Integer.MAX_VALUE;
+
+    static final String WHAT_IT_IS = "## What it is", TERMS = "## Terms";
 
     private static final Path DOCUMENT = Path.of("../shared/DOC.md");
     private static final Pattern NAME = Pattern.compile("(promise(\\d\\d)|terms|object)_\\w+");
@@ -55,7 +57,8 @@ abstract class Edges {
 
     // ---- running
 
-    static void runAll(Class<?> tests) {
+    /** The parts are those that these tests are for: each must have one at least. */
+    static void runAll(Class<?> tests, String... parts) {
         Method[] methods = tests.getDeclaredMethods();
         Arrays.sort(methods, Comparator.comparing(Method::getName));
         Map<String, List<String>> quotes = new TreeMap<>();
@@ -72,11 +75,27 @@ abstract class Edges {
                 .addAll(Arrays.asList(method.getAnnotation(Says.class).value()));
         }
         test = "";
+        for (String part : parts) {
+            must(quotes.containsKey(part), part + " no test is for it");
+        }
+        must(quotes.size() == parts.length, "tests for other parts than told");
         lookAtQuotes(quotes);
         System.out.println(many + " sentences, " + looked + " answers looked at, " + wrong + " not as due");
         if (wrong != 0 || many == 0) {
             System.exit(1);
         }
+    }
+
+    static String[] promises(int first, int last) {
+        String[] parts = new String[last - first + 1];
+        for (int i = 0; i < parts.length; i++) {
+            parts[i] = promise(first + i);
+        }
+        return parts;
+    }
+
+    private static String promise(int number) {
+        return "## Promise " + number + ":";
     }
 
     private static void runOne(Method method) {
@@ -101,9 +120,9 @@ abstract class Edges {
             return "";
         }
         if (matcher.group(2) != null) {
-            return "## Promise " + Integer.parseInt(matcher.group(2)) + ":";
+            return promise(Integer.parseInt(matcher.group(2)));
         }
-        return matcher.group(1).equals("terms") ? "## Terms" : "## What it is";
+        return matcher.group(1).equals("terms") ? TERMS : WHAT_IT_IS;
     }
 
     private static void lookAtQuotes(Map<String, List<String>> quotes) {
