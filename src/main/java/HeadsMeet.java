@@ -414,8 +414,9 @@ public final class HeadsMeet {
     }
 
     private boolean hasRoomFor(int first) {
-        int more = now.sortOf(first) == COPYING ? 2 : 0;
-        return now.nodes() + more <= MOST_NODES;
+        int sort = Graph.sortOf(now.kindOf(first), now.kindOf(now.partnerOf(first)));
+        // Only COPYING makes more than vanish.
+        return sort != COPYING || now.nodes() + 2 <= MOST_NODES;
     }
 
     private boolean findEnding(Graph graph) {
@@ -838,13 +839,12 @@ public final class HeadsMeet {
             }
         }
 
-        int sortOf(int first) {
-            int kind = kindOf(first);
-            int other = kindOf(partnerOf(first));
-            if (kind == other) {
+        /** Of a MEETING of these KINDS. */
+        static int sortOf(int kind, int otherKind) {
+            if (kind == otherKind) {
                 return ALIKE;
             }
-            return kind == END || other == END ? EATING : COPYING;
+            return kind == END || otherKind == END ? EATING : COPYING;
         }
 
         int perform(int first) {
@@ -852,9 +852,9 @@ public final class HeadsMeet {
             if (second == NONE) {
                 return NONE;
             }
-            int sort = sortOf(first);
             int kind = kindOf(first);
             int otherKind = kindOf(second);
+            int sort = sortOf(kind, otherKind);
             vacate(port(first, HEAD));
             vacate(port(second, HEAD));
             remove(first);

@@ -198,7 +198,7 @@ public final class EdgesOfNets extends Edges {
 
     // ---- promise 6: node
 
-    @Says("what = 0 KIND, 1 to 3 the PLACE at the other end of the WIRE at its HEAD, LEFT, RIGHT (NONE: an END has none such)")
+    @Says("Of a NODE: what = 0 KIND, 1 to 3 the PLACE at the other end of the WIRE at its HEAD, LEFT, RIGHT (NONE: an END has none such)")
     static void promise06_what_0_to_3_NONE_an_END_has_none_such() {
         Tried x = Tried.of("*=(aa),[gh]=b,{c*}=d,e=(ef)");
         dueNode(x, 0, 0, 3, NONE, NONE, 1);
@@ -285,8 +285,8 @@ public final class EdgesOfNets extends Edges {
 
     // ---- promise 7: as
 
-    @Says({"A NODE taken as what = 0 a NODE, 1 an END, 2 a BRACKET, 3 a SQUARE (CURLED ones are SQUARE, too, so taken), 4 a CURLED one",
-        "NONE: it is none such (the cast fails)"})
+    @Says({"A NODE taken as what = 0 a NODE, 1 an END, 2 a BRACKET, 3 a SQUARE (CURLED ones are SQUARE, too, so taken), 4 a CURLED one: "
+        + "its number", "NONE: it is none such (the cast fails)"})
     static void promise07_as_each_KIND_or_NONE() {
         Tried x = Tried.of("*=(a[b{cd}])");
         int[][] want = {{0, 0, NONE, NONE, NONE}, {1, NONE, 1, NONE, NONE}, {2, NONE, 2, 2, NONE}, {3, NONE, 3, 3, 3}};

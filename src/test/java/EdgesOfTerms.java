@@ -1,19 +1,7 @@
-/** The boundary cases that 'What it is' and 'Terms' name. What is due was found by hand from the document. */
+/** The boundary cases that 'Terms' names. What is due was found by hand from the document. */
 public final class EdgesOfTerms extends Edges {
     public static void main(String[] args) {
-        runAll(EdgesOfTerms.class, WHAT_IT_IS, TERMS);
-    }
-
-    @Says("An object is used for at most 512 calls after it has been made")
-    static void object_used_for_at_most_512_calls() {
-        String text = "(ab)=[c*],*=*";
-        Tried x = Tried.of(text);
-        x.image();
-        while (x.calls() < 511) {
-            x.same();
-        }
-        due("the 512th call", x.digest(), Tried.of(text).digest());
-        due("calls made", x.calls(), 512);
+        runAll(EdgesOfTerms.class, TERMS);
     }
 
     // ---- 1 the net
@@ -23,6 +11,19 @@ public final class EdgesOfTerms extends Edges {
         Tried x = Tried.of("a=*,(bc)=d");
         dueNode(x, 0, 0, 900, NONE, NONE, NONE);
         dueNode(x, 1, 1, 903, 901, 902, NONE);
+    }
+
+    @Says("each of these is at one end of a WIRE.")
+    static void terms_each_HEAD_LEFT_and_RIGHT_is_at_one_end_of_a_WIRE() {
+        Tried x = Tried.of("([ab]*)={{ba}[cd]},d=(ef)");
+        // Six BRACKETS, each at the ends of three WIRES, and an END.
+        int[][] ends = {{0, 0}, {0, 1}, {0, 2}, {1, 0}, {1, 1}, {1, 2}, {2, 0}, {3, 0}, {3, 1}, {3, 2}, {4, 0}, {4, 1}, {4, 2},
+            {5, 0}, {5, 1}, {5, 2}, {6, 0}, {6, 1}, {6, 2}};
+        for (int[] end : ends) {
+            int there = x.node(end[0], 1 + end[1]);
+            int back = there >= 900 ? x.open(there - 900) : x.node(there / 3, 1 + there % 3);
+            due("and back from " + there, back, 3 * end[0] + end[1]);
+        }
     }
 
     @Says("KINDS are 0 END, 1 ROUND, 2 SQUARE, 3 CURLED")
@@ -51,7 +52,7 @@ public final class EdgesOfTerms extends Edges {
         dueNode(most, 59, 2, 172, 2, 170, NONE);
     }
 
-    @Says("or 900, and 0 to 7 for an OPEN WIRE a to h")
+    @Says({"or 900, and 0 to 7 for an OPEN WIRE a to h", "which no NODE is at the end of."})
     static void terms_a_PLACE_of_an_OPEN_WIRE_is_900_to_907() {
         Tried x = Tried.of("(ah)=*,b=c,g=f");
         due("a", x.node(0, 2), 900);
@@ -129,6 +130,24 @@ public final class EdgesOfTerms extends Edges {
         due("seven letters between", through.open(0), 0);
         due("and the other way", through.node(0, 1), 900);
         due("one that is OPEN", through.count(5), 1);
+    }
+
+    @Says({"A TREE is \"*\" (the HEAD of an END), or",
+        "(the HEAD of a ROUND one, a SQUARE, a CURLED one, with what is at its LEFT, then its RIGHT)"})
+    static void terms_a_TREE_is_the_HEAD_with_LEFT_then_RIGHT_in_it() {
+        due("the HEAD of an END", Tried.of("a=*").open(0), 0);
+        String[] signs = {"", "()", "[]", "{}"};
+        for (int kind = 1; kind <= 3; kind++) {
+            char open = signs[kind].charAt(0);
+            char close = signs[kind].charAt(1);
+            Tried x = Tried.of("a=" + open + "bc" + close);
+            dueNode(x, 0, kind, 900, 901, 902, NONE);
+            Tried inside = Tried.of("a=" + open + "*" + open + "b*" + close + close);
+            dueNode(inside, 0, kind, 900, 3, 6, NONE);
+            dueNode(inside, 1, 0, 1, NONE, NONE, NONE);
+            dueNode(inside, 2, kind, 2, 901, 9, NONE);
+            dueNode(inside, 3, 0, 8, NONE, NONE, NONE);
+        }
     }
 
     @Says("\"(\", a TREE, a TREE, \")\", or so \"[\" \"]\", \"{\" \"}\"")
@@ -601,7 +620,7 @@ public final class EdgesOfTerms extends Edges {
         due("after forget()", x.see(0, 0, 1), 1);
     }
 
-    @Says("(what 0 in all, 1 ALIKE, 2 COPYING, 3 EATING) there are to the ENDING (NONE: there is no ENDING), "
+    @Says("how many MEETINGS (what 0 in all, 1 ALIKE, 2 COPYING, 3 EATING) there are to the ENDING (NONE: there is no ENDING), "
         + "if a BRACKET is of the KIND that it is, which is not known")
     static void terms_SEEN_is_how_many_MEETINGS_or_NONE() {
         // With a SQUARE one at its HEAD: as a ROUND or CURLED one it copies for ever.

@@ -10,7 +10,9 @@ import java.util.Arrays;
 import java.util.Collections;
 import java.util.IdentityHashMap;
 import java.util.List;
+import java.util.Map;
 import java.util.Set;
+import java.util.TreeMap;
 import java.util.TreeSet;
 import java.util.regex.Matcher;
 import java.util.regex.Pattern;
@@ -27,12 +29,16 @@ public final class HeadsMeetForm {
         "int same()", "int see(int, int, int)", "int forget()", "int runs(int, int, int)", "int image()",
         "int restore()", "int count(int)", "long digest()"};
     private static final int MOST_ELEMENTS = 6000;
+    private static final int MOST_DEPTH = 8;
     private static int wrong = 0;
 
     public static void main(String[] args) throws IOException, IllegalAccessException {
         theFace();
         theClassesInside();
-        theText(Files.readString(Path.of("src/main/java/HeadsMeet.java")));
+        String source = Files.readString(Path.of("src/main/java/HeadsMeet.java"));
+        theText(source);
+        theDepthOfCalls(withoutComments(source));
+        theDocument(Files.readString(Path.of("../shared/DOC.md")), source);
         theRoom();
         System.out.println(wrong == 0 ? "the form is as due" : wrong + " faults of form");
         if (wrong != 0) {
@@ -110,8 +116,12 @@ public final class HeadsMeetForm {
         }
     }
 
+    private static String withoutComments(String source) {
+        return source.replaceAll("(?s)/\\*.*?\\*/", "").replaceAll("//[^\n]*", "");
+    }
+
     private static void theText(String source) {
-        String code = source.replaceAll("(?s)/\\*.*?\\*/", "").replaceAll("//[^\n]*", "");
+        String code = withoutComments(source);
         for (String word : new String[] {"->", "::", "catch", "try", "throw", "synchronized", "assert", "finally", "package ",
             "Exact(", "System.out", "System.nano", "System.current", "Random", "Thread", "instanceof", "double", "float", "hashCode",
             "equals(", "toString", "static {"}) {
@@ -139,6 +149,75 @@ public final class HeadsMeetForm {
                 start = -1;
             }
         }
+    }
+
+    /** Calls are told by their names alone, so a call counts as one of each method that has the name. */
+    private static void theDepthOfCalls(String code) {
+        Map<String, Set<String>> calls = new TreeMap<>();
+        Set<String> within = new TreeSet<>();
+        Pattern head = Pattern.compile("^(?: {4}| {8})[a-zA-Z][\\w\\[\\] ]* (\\w+)\\([^()]*\\) \\{$");
+        Pattern call = Pattern.compile("(\\w+)\\(");
+        for (String line : code.split("\n")) {
+            Matcher heads = head.matcher(line);
+            if (heads.matches()) {
+                within = calls.computeIfAbsent(heads.group(1), name -> new TreeSet<>());
+                continue;
+            }
+            Matcher found = call.matcher(line);
+            while (found.find()) {
+                within.add(found.group(1));
+            }
+        }
+        for (String row : FACE) {
+            String name = row.substring(row.indexOf(' ') + 1, row.indexOf('('));
+            must(calls.containsKey(name), "the body of " + name + " is found");
+            int depth = depthOf(name, calls, new ArrayList<>());
+            must(depth <= MOST_DEPTH, name + " calls " + MOST_DEPTH + " deep at most, not " + depth);
+        }
+    }
+
+    private static int depthOf(String name, Map<String, Set<String>> calls, List<String> open) {
+        must(!open.contains(name), "no recursion: " + open + " " + name);
+        if (!calls.containsKey(name) || open.contains(name)) {
+            return 0;
+        }
+        open.add(name);
+        int most = 0;
+        for (String each : calls.get(name)) {
+            most = Math.max(most, depthOf(each, calls, open));
+        }
+        open.remove(name);
+        return most + 1;
+    }
+
+    /** The face is that of the document, and has its headings where the document says. */
+    private static void theDocument(String document, String source) {
+        Matcher rows = Pattern.compile("public (int|long) (\\w+)\\(([^)]*)\\);").matcher(document);
+        List<String> face = new ArrayList<>();
+        while (rows.find()) {
+            face.add(rows.group(1) + " " + rows.group(2) + "(" + rows.group(3).replaceAll("int \\w+", "int") + ")");
+            must(source.contains("    public " + rows.group(1) + " " + rows.group(2) + "(" + rows.group(3) + ") {"),
+                rows.group() + " stands in the class, its arguments by their names");
+        }
+        must(face.equals(Arrays.asList(FACE)), "the face of the document is " + face);
+        must(source.contains(line(document, "public static final int NONE")), "the constants are as in the document");
+        Matcher headings = Pattern.compile("Ahead of the calls `(\\w+)`.* the interface says: ---- (.*)\\.").matcher(document);
+        int found = 0;
+        while (headings.find()) {
+            found++;
+            Pattern there = Pattern.compile("// ---- " + headings.group(2) + "\\s+public (int|long) " + headings.group(1) + "\\(");
+            must(there.matcher(source).find(), "'" + headings.group(2) + "' stands ahead of " + headings.group(1));
+        }
+        must(found == 6, "six headings, not " + found);
+    }
+
+    private static String line(String text, String words) {
+        for (String line : text.split("\n")) {
+            if (line.contains(words)) {
+                return line.trim();
+            }
+        }
+        return "no line has " + words;
     }
 
     private static void theRoom() throws IllegalAccessException {

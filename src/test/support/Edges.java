@@ -18,9 +18,9 @@ import java.util.regex.Matcher;
 import java.util.regex.Pattern;
 
 /**
- * What the tests of boundary cases share. Each test is a method without arguments, named after the
+ * What the tests of sentences share. Each test is a method without arguments, named after the
  * part of the document (promise07, terms) and the sentence; it quotes that sentence, and the quote
- * must stand in that part. A part that was begun must be quoted wherever it names a refusal or a limit.
+ * must stand in that part. Each word of a part must be quoted by a test.
  */
 abstract class Edges {
     static final int NONE = -1, UNKNOWN = -101, OUTSIDE = -102, STATE = -103, FULL = -104;
@@ -31,7 +31,10 @@ abstract class Edges {
 
     private static final Path DOCUMENT = Path.of("../shared/DOC.md");
     private static final Pattern NAME = Pattern.compile("(promise(\\d\\d)|terms|object)_\\w+");
-    private static final Pattern EDGE = Pattern.compile("UNKNOWN|OUTSIDE|STATE|FULL|NONE|-2\\b|\\bat most\\b");
+    // Headings, the form of a call, and the marks of parts; what the interface says is for HeadsMeetForm to look at.
+    private static final Pattern NO_SENTENCE =
+        Pattern.compile("(?m)^## .*$|^`.*?`: |^Ahead of the calls .*$|^======== \\d |```(text)?|======== \\d ");
+    private static final Pattern WORD = Pattern.compile("[A-Za-z0-9*]+");
 
     private static String test = "";
     private static int looked = 0;
@@ -144,17 +147,24 @@ abstract class Edges {
 
     private static void lookAtPart(String part, String text, List<String> words) {
         boolean[] quoted = new boolean[text.length()];
-        for (String each : words) {
-            int at = text.indexOf(each);
-            must(at >= 0, part + " does not say '" + each + "'");
+        for (String quote : words) {
+            int at = text.indexOf(quote);
+            must(at >= 0, part + " does not say '" + quote + "'");
             if (at >= 0) {
-                Arrays.fill(quoted, at, at + each.length(), true);
+                Arrays.fill(quoted, at, at + quote.length(), true);
             }
         }
-        Matcher edges = EDGE.matcher(text);
-        while (edges.find()) {
-            must(quoted[edges.start()], part + " no test quotes '" + text.substring(edges.start(),
-                Math.min(text.length(), edges.start() + 40)).replace('\n', ' ') + "..'");
+        Matcher others = NO_SENTENCE.matcher(text);
+        while (others.find()) {
+            Arrays.fill(quoted, others.start(), others.end(), true);
+        }
+        Matcher each = WORD.matcher(text);
+        boolean before = true;
+        while (each.find()) {
+            boolean now = quoted[each.start()];
+            must(now || !before, part + " no test quotes '" + text.substring(each.start(),
+                Math.min(text.length(), each.start() + 40)).replace('\n', ' ') + "..'");
+            before = now;
         }
     }
 
